@@ -63,6 +63,16 @@ public final class PromisesTest {
         return graph(0, 5, 1, 4);
     }
 
+    /** A triangle with a tail: its least width can be had with a line put in, its least fill can't. */
+    private static LayoutWidths tailed() {
+        return graph(0, 1, 0, 2, 1, 2, 0, 3);
+    }
+
+    /** A triangle with a further triangle on each side: wider in a row than taken apart. */
+    private static LayoutWidths sun() {
+        return graph(0, 1, 1, 2, 2, 0, 3, 0, 3, 1, 4, 1, 4, 2, 5, 2, 5, 0);
+    }
+
     public static void main(String[] args) {
         promise1();
         promise2();
@@ -182,6 +192,7 @@ public final class PromisesTest {
         due("ring: separation()", ring().separation(), 2);
         due("star: separation()", star(2).separation(), 1);
         due("three by three: separation()", threeByThree().separation(), 3);
+        due("sun: separation()", sun().separation(), 3);
         due("full: separation()", full().separation(), 5);
     }
 
@@ -212,6 +223,7 @@ public final class PromisesTest {
         due("ring: width()", ring().width(), 2);
         due("two triangles: width()", graph(0, 1, 1, 2, 2, 0, 3, 4, 4, 5, 5, 3).width(), 2);
         due("three by three: width()", threeByThree().width(), 3);
+        due("sun: width()", sun().width(), 2);
         due("full: width()", full().width(), 5);
     }
 
@@ -248,6 +260,7 @@ public final class PromisesTest {
         due("path: fillOrders()", path().fillOrders(), 32);
         due("ring: fillOrders()", ring().fillOrders(), 720);
         due("star: fillOrders()", star(3).fillOrders(), 240);
+        due("triangle with a tail: fillOrders()", tailed().fillOrders(), 420);
         due("three by three: fillOrders()", threeByThree().fillOrders(), 288);
         due("full: fillOrders()", full().fillOrders(), 720);
     }
@@ -280,6 +293,7 @@ public final class PromisesTest {
         dueWidthOrder("ring", ring(), 0, 1, 2, 3, 4, 5);
         // All but one of a star's points have to be out before its middle may go.
         dueWidthOrder("star", star(0), 1, 2, 3, 4, 0, 5);
+        dueWidthOrder("triangle with a tail", tailed(), 1, 0, 2, 3, 4, 5);
         dueWidthOrder("path with 0 and 1 inside", graph(5, 1, 1, 0, 0, 2, 2, 3, 3, 4), 4, 3, 2, 0, 1, 5);
         for (int i : OUTSIDE) {
             due("widthOrder(" + i + ")", path().widthOrder(i), NO);
