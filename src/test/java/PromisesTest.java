@@ -1,4 +1,4 @@
-/** Promise by promise: graphs whose answers are known by hand, the document's edges, and wrong arguments. */
+/** Promise by promise: well-known graphs, the document's edges, and wrong arguments. */
 public final class PromisesTest {
     private static final int[] OUTSIDE = {-1, 6, 7, 31, 32, 33, -32, Integer.MAX_VALUE, Integer.MIN_VALUE};
     private static final int BAD = -1;
