@@ -241,7 +241,10 @@ public final class EveryGraphTest {
             for (int q = p + 1; q < 6; q++, bit++) {
                 int want = widths[mask | 1 << bit] - widths[mask];
                 due("growth(" + p + ", " + q + ")", x.growth(p, q), want);
-                due("growth(" + q + ", " + p + ")", x.growth(q, p), want);
+                // Each growth costs two surveys, so the other way round is asked on every seventh graph alone.
+                if (mask % 7 == 0) {
+                    due("growth(" + q + ", " + p + ")", x.growth(q, p), want);
+                }
             }
         }
     }
@@ -256,8 +259,7 @@ public final class EveryGraphTest {
             due("clique()", x.clique(), greatestClique());
             due("clear()", x.clear(), Integer.bitCount(mask));
         }
-        // Growth asks for some 40 surveys a graph: every seventh graph is enough, each pair comes up both ways.
-        for (mask = 0; mask < 1 << 15; mask += 7) {
+        for (mask = 0; mask < 1 << 15; mask++) {
             LayoutWidths x = build();
             checkGrowth(x, widths);
             due("lines() after growth", x.lines(), Integer.bitCount(mask));

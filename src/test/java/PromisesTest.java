@@ -369,7 +369,7 @@ public final class PromisesTest {
             due("round: stretch()", x.stretch(), 1);
             due("round: lengthOrders()", x.lengthOrders(), 96);
             due("round: fill()", x.fill(), 0);
-            due("round: cutOrders() again", x.cutOrders(), x.cutOrders());
+            due("round: cutOrders()", x.cutOrders(), 240);
             due("round: lines()", x.lines(), 2);
         }
     }
