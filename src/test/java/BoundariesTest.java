@@ -5,7 +5,8 @@ import java.util.function.IntBinaryOperator;
 
 /**
  * The document's boundary sentences, in its order, each with a test of its own. The due answers are counted by hand
- * or told by the graph's shape; none is read off the program. What holds on the graphs in between is for
+ * or told by the graph's shape; only where a call has to change nothing (or a second one to undo the first), the
+ * answers of an untouched object with the same lines are the due ones. What holds on the graphs in between is for
  * EveryGraphTest, and what holds at the 512th call for LongLifeTest.
  */
 public final class BoundariesTest {
