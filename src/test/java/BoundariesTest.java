@@ -741,6 +741,8 @@ public final class BoundariesTest {
             forPairs((p, q) -> due("one line: lengthOrders()", graph(p, q).lengthOrders(), 240));
             forPairs((p, q) -> due("all lines but one: lengthOrders()", fullBut(p, q).lengthOrders(), 48));
             forOrders(order -> due("path: lengthOrders()", path(order).lengthOrders(), 2));
+            // 3, 0 and then 1 and 2, read from either end, with 4 and 5 outside: more orders have the least stretch.
+            due("triangle with a tail: lengthOrders()", graph(0, 1, 1, 2, 2, 0, 0, 3).lengthOrders(), 24);
         });
         says("Promise 13: The number of orders with the least fill", () -> {
             due("no line: fillOrders()", none().fillOrders(), 720);
@@ -748,6 +750,8 @@ public final class BoundariesTest {
             forPairs((p, q) -> due("all lines but one: fillOrders()", fullBut(p, q).fillOrders(), 240));
             // A path's end has to go each time, one of two until one point is left.
             forOrders(order -> due("path: fillOrders()", path(order).fillOrders(), 32));
+            // 3 first and then any, or 1 or 2 first and not 0 next: 14 of 24; more orders have the least width.
+            due("triangle with a tail: fillOrders()", graph(0, 1, 1, 2, 2, 0, 0, 3).fillOrders(), 420);
             // Whichever point of a ring goes, the ring that is left is shorter by one.
             due("ring: fillOrders()", ring().fillOrders(), 720);
         });

@@ -252,6 +252,8 @@ public final class PromisesTest {
         due("two lines: lengthOrders()", twoLines().lengthOrders(), 96);
         due("path: lengthOrders()", path().lengthOrders(), 2);
         due("star: lengthOrders()", star(3).lengthOrders(), 240);
+        // 3, 0 and then 1 and 2, read from either end, with 4 and 5 outside: more orders have the least stretch.
+        due("triangle with a tail: lengthOrders()", tailed().lengthOrders(), 24);
         due("full: lengthOrders()", full().lengthOrders(), 720);
     }
 
@@ -342,6 +344,7 @@ public final class PromisesTest {
     private static void promise18() {
         due("no line: clique()", new LayoutWidths().clique(), 1);
         due("one line: clique()", graph(4, 5).clique(), 2);
+        due("the first line: clique()", graph(0, 1).clique(), 2);
         due("ring: clique()", ring().clique(), 2);
         due("three by three: clique()", threeByThree().clique(), 2);
         due("a late triangle: clique()", graph(3, 4, 4, 5, 5, 3).clique(), 3);
